@@ -1,14 +1,13 @@
-import java.util.Random;
-
-/** Long runs of edits, right and wrong ones, on the class and on the model; all their answers must agree. */
+/** Runs of calls, right and wrong ones, on the class and on the model; all their answers must agree. */
 public final class ModelTest {
-    private static final int CALLS = 512;
     private static final Check CHECK = new Check("ModelTest");
 
     public static void main(String[] args) {
         everyShortText();
-        for (int seed = 1; seed <= 60; seed++) {
-            longRun(seed);
+        for (int seed = 1; seed <= 400; seed++) {
+            for (int kind = 1; kind <= 3; kind++) {
+                editThenAskAll(seed, kind);
+            }
         }
         for (int seed = 1; seed <= 2000; seed++) {
             mixedRun(seed);
@@ -17,125 +16,97 @@ public final class ModelTest {
     }
 
     private static void everyShortText() {
-        int texts = 7 * 7 * 7 * 7;
-        for (int number = 0; number < texts; number++) {
-            BracketPairTree x = new BracketPairTree();
-            TextModel model = new TextModel();
-            for (int rest = number; rest > 0; rest /= 7) {
-                x.insert(0, rest % 7);
-                model.insert(0, rest % 7);
+        for (int number = 0; number < 7 * 7 * 7 * 7; number++) {
+            for (int kind = 0; kind <= 4; kind++) {
+                Twin twin = new Twin(CHECK, "short text");
+                for (int rest = number; rest > 0; rest /= 7) {
+                    twin.insert(0, rest % 7);
+                }
+                askEveryPosition(twin, kind);
+                askEveryStretch(twin, kind);
             }
-            compareAll("short text", x, model);
         }
     }
 
-    /** Few edits, and after each every question that can be asked of the text. */
-    private static void longRun(int seed) {
-        Random random = new Random(seed);
-        BracketPairTree x = new BracketPairTree();
-        TextModel model = new TextModel();
-        for (int i = 0; i < 90; i++) {
-            edit(random, "run " + seed, x, model);
-            if (i % 5 == 0) {
-                compareAll("run " + seed, x, model);
-            }
+    /** One kind a run, because the questions of all three would be more calls than an object is used for. */
+    private static void editThenAskAll(int seed, int kind) {
+        Numbers numbers = new Numbers(seed);
+        Twin twin = new Twin(CHECK, "edited text " + seed);
+        int edits = 10 + seed % 120;
+        for (int i = 0; i < edits; i++) {
+            edit(numbers, twin);
         }
-        compareAll("run " + seed, x, model);
+        askEveryPosition(twin, kind);
+        for (int i = twin.callsLeft() / 2; i > 0; i--) {
+            int from = numbers.below(twin.length() + 1);
+            int length = numbers.below(twin.length() - from + 1);
+            twin.looseOpen(from, length, kind);
+            twin.looseClose(from, length, kind);
+        }
     }
 
     /** As many calls as an object is used for, of all methods in any order. */
     private static void mixedRun(int seed) {
-        Random random = new Random(-seed);
-        BracketPairTree x = new BracketPairTree();
-        TextModel model = new TextModel();
-        for (int i = 0; i < CALLS; i++) {
-            if (random.nextInt(10) < 6) {
-                edit(random, "mixed run " + seed, x, model);
+        Numbers numbers = new Numbers(-seed);
+        Twin twin = new Twin(CHECK, "mixed run " + seed);
+        int editsInTen = 2 + seed % 7;
+        while (twin.callsLeft() > 0) {
+            if (numbers.below(10) < editsInTen) {
+                edit(numbers, twin);
             } else {
-                ask(random, "mixed run " + seed, x, model);
+                ask(numbers, twin);
             }
         }
     }
 
-    private static void edit(Random random, String run, BracketPairTree x, TextModel model) {
-        int length = model.length();
-        int from = number(random, length);
-        int size = number(random, random.nextBoolean() ? length - from : 6);
-        int to = number(random, length - size);
-        String before = run + " " + model;
-        int choice = random.nextInt(20);
+    private static void edit(Numbers numbers, Twin twin) {
+        int choice = numbers.below(20);
+        int from = numbers.upTo(twin.length());
         if (choice < 13) {
-            int code = random.nextInt(30) == 0 ? number(random, 6) : random.nextInt(7);
-            CHECK.due(before + ": insert(" + from + ", " + code + ")", x.insert(from, code), model.insert(from, code));
-        } else if (choice < 14) {
-            int few = random.nextInt(4) == 0 ? size : number(random, 4);
-            CHECK.due(before + ": erase(" + from + ", " + few + ")", x.erase(from, few), model.erase(from, few));
+            int code = numbers.upTo(6);
+            twin.insert(from, code);
+            return;
+        }
+        boolean isLong = numbers.below(2) == 0;
+        int length = numbers.upTo(isLong ? twin.length() - from : 6);
+        if (choice < 14) {
+            twin.erase(from, numbers.below(4) == 0 ? length : numbers.upTo(4));
         } else if (choice < 17) {
-            CHECK.due(before + ": move(" + from + ", " + size + ", " + to + ")", x.move(from, size, to), model.move(from, size, to));
+            twin.move(from, length, numbers.upTo(twin.length() - length));
         } else {
-            CHECK.due(before + ": mirror(" + from + ", " + size + ")", x.mirror(from, size), model.mirror(from, size));
+            twin.mirror(from, length);
         }
     }
 
-    private static void ask(Random random, String run, BracketPairTree x, TextModel model) {
-        int at = number(random, model.length());
-        int size = number(random, model.length() - at);
-        int kind = number(random, 3);
-        switch (random.nextInt(4)) {
-            case 0:
-                compareAt(run, x, model, at);
-                break;
-            case 1:
-                comparePairs(run, x, model, at, kind);
-                break;
-            default:
-                compareLoose(run, x, model, at, size, kind);
-                break;
+    private static void ask(Numbers numbers, Twin twin) {
+        int at = numbers.upTo(twin.length() - 1);
+        int length = numbers.upTo(twin.length() - at);
+        int kind = 1 + numbers.upTo(2);
+        switch (numbers.below(6)) {
+            case 0 -> twin.codeAt(at);
+            case 1 -> twin.partner(at);
+            case 2 -> twin.around(at, kind);
+            case 3 -> twin.depth(at, kind);
+            case 4 -> twin.looseOpen(at, length, kind);
+            default -> twin.looseClose(at, length, kind);
         }
     }
 
-    /** Mostly from 0 to bound, now and then just outside or far outside. */
-    private static int number(Random random, int bound) {
-        int[] odd = {-1, bound + 1, 60, 61, Integer.MIN_VALUE, Integer.MAX_VALUE};
-        if (bound < 0 || random.nextInt(25) == 0) {
-            return odd[random.nextInt(odd.length)];
+    private static void askEveryPosition(Twin twin, int kind) {
+        for (int at = -1; at <= twin.length(); at++) {
+            twin.codeAt(at);
+            twin.partner(at);
+            twin.around(at, kind);
+            twin.depth(at, kind);
         }
-        return bound == Integer.MAX_VALUE ? random.nextInt(bound) : random.nextInt(bound + 1);
     }
 
-    private static void compareAll(String run, BracketPairTree x, TextModel model) {
-        for (int at = -1; at <= model.length() + 1; at++) {
-            compareAt(run, x, model, at);
-            for (int kind = 0; kind <= 4; kind++) {
-                comparePairs(run, x, model, at, kind);
+    private static void askEveryStretch(Twin twin, int kind) {
+        for (int from = -1; from <= twin.length() + 1; from++) {
+            for (int length = -1; length <= twin.length() + 1; length++) {
+                twin.looseOpen(from, length, kind);
+                twin.looseClose(from, length, kind);
             }
         }
-        boolean isShort = model.length() < 20;
-        for (int from = -1; from <= model.length() + 1; from += isShort ? 1 : 3) {
-            for (int size = -1; size <= model.length() + 1; size += isShort ? 1 : 4) {
-                for (int kind = 0; kind <= 4; kind++) {
-                    compareLoose(run, x, model, from, size, kind);
-                }
-            }
-        }
-    }
-
-    private static void compareAt(String run, BracketPairTree x, TextModel model, int at) {
-        String where = run + " " + model + ": ";
-        CHECK.due(where + "codeAt(" + at + ")", x.codeAt(at), model.codeAt(at));
-        CHECK.due(where + "partner(" + at + ")", x.partner(at), model.partner(at));
-    }
-
-    private static void comparePairs(String run, BracketPairTree x, TextModel model, int at, int kind) {
-        String where = run + " " + model + ": ";
-        CHECK.due(where + "around(" + at + ", " + kind + ")", x.around(at, kind), model.around(at, kind));
-        CHECK.due(where + "depth(" + at + ", " + kind + ")", x.depth(at, kind), model.depth(at, kind));
-    }
-
-    private static void compareLoose(String run, BracketPairTree x, TextModel model, int from, int size, int kind) {
-        String where = run + " " + model + ": ";
-        String arguments = "(" + from + ", " + size + ", " + kind + ")";
-        CHECK.due(where + "looseOpen" + arguments, x.looseOpen(from, size, kind), model.looseOpen(from, size, kind));
-        CHECK.due(where + "looseClose" + arguments, x.looseClose(from, size, kind), model.looseClose(from, size, kind));
     }
 }

@@ -1,4 +1,7 @@
-/** Each promise by itself: ordinary inputs, the edges that the document names, and wrong inputs. */
+/**
+ * Each promise by itself: ordinary inputs, the edges that the document names, and wrong inputs. A text
+ * is written as its codes, so "1024" is an opening bracket, a plain character and two brackets more.
+ */
 public final class PromisesTest {
     private static final int BAD = -1;
     private static final int FULL = -2;
@@ -90,7 +93,7 @@ public final class PromisesTest {
     private static void insertFull() {
         String full = "123456".repeat(10);
         BracketPairTree x = text(full.substring(0, 59));
-        CHECK.due("insert of the last but one, wrong", x.insert(60, 6), BAD);
+        CHECK.due("insert of the 60th at a wrong place", x.insert(60, 6), BAD);
         CHECK.due("insert of the 60th", x.insert(59, 6), 60);
         CHECK.due("insert of the 61st", x.insert(0, 1), FULL);
         CHECK.due("insert of the 61st at the end", x.insert(60, 1), FULL);
@@ -408,8 +411,10 @@ public final class PromisesTest {
 
     private static String textOf(BracketPairTree x) {
         StringBuilder codes = new StringBuilder();
-        for (int at = 0; at < 61 && x.codeAt(at) != BAD; at++) {
-            codes.append(x.codeAt(at));
+        int code = x.codeAt(0);
+        for (int at = 1; at < 61 && code != BAD; at++) {
+            codes.append(code);
+            code = x.codeAt(at);
         }
         return codes.toString();
     }
