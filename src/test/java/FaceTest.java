@@ -53,7 +53,8 @@ public final class FaceTest {
         for (Method m : c.getDeclaredMethods()) {
             if (!Modifier.isPrivate(m.getModifiers())) {
                 seen.add(m.getName() + "(" + types(m.getParameterTypes()) + ")");
-                yes(m.getName() + " is public", Modifier.isPublic(m.getModifiers()) && !Modifier.isStatic(m.getModifiers()));
+                yes(m.getName() + " is public", Modifier.isPublic(m.getModifiers()));
+                yes(m.getName() + " is not static", !Modifier.isStatic(m.getModifiers()));
                 yes(m.getName() + " answers an int", m.getReturnType() == int.class);
             }
         }
