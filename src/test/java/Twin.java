@@ -1,7 +1,6 @@
 /** The class and the model side by side: every call goes to both, and their answers must agree. */
 final class Twin {
-    /** Past so many calls the document leaves the answers free. */
-    private static final int CALLS = 512;
+    private static final int CALLS = Subject.CALLS;
 
     private final Check check;
     private final String run;
