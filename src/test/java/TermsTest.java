@@ -116,7 +116,8 @@ public final class TermsTest {
         }
     }
 
-    // "The three kinds are paired each on its own, without regard to the others (so pairs of different kinds may cross)"
+    // "The three kinds are paired each on its own, without regard to the others (so pairs of different kinds may
+    // cross)"
 
     private static void kindsArePairedOnTheirOwn() {
         new Subject(CHECK, "1245").partnersAre(2, 3, 0, 1);
