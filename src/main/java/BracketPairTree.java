@@ -202,26 +202,27 @@ public final class BracketPairTree {
         return smaller(left, right);
     }
 
+    // Every node that is taken covers a position or more, so LIMIT of them cover any stretch.
     private int opensIn(int from, int end, int kind) {
         int loose = 0;
-        int width = 1;
-        for (int at = from; at < end; at += width) {
+        int at = from;
+        for (int taken = 0; taken < LIMIT && at < end; taken++) {
             int level = levelFrom(at, end);
             int cell = kind * NODES + ((LEAVES + at) >> level);
             loose = lessDownToZero(loose, closes[cell]) + opens[cell];
-            width = 1 << level;
+            at += 1 << level;
         }
         return loose;
     }
 
     private int closesIn(int from, int end, int kind) {
         int loose = 0;
-        int width = 1;
-        for (int stop = end; stop > from; stop -= width) {
+        int stop = end;
+        for (int taken = 0; taken < LIMIT && stop > from; taken++) {
             int level = levelUpTo(stop, from);
             int cell = kind * NODES + ((LEAVES + stop - 1) >> level);
             loose = lessDownToZero(loose, opens[cell]) + closes[cell];
-            width = 1 << level;
+            stop -= 1 << level;
         }
         return loose;
     }

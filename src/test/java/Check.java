@@ -17,6 +17,13 @@ final class Check {
         }
     }
 
+    void yes(String words, boolean holds) {
+        asked++;
+        if (!holds) {
+            fault("not so: " + words);
+        }
+    }
+
     void fault(String words) {
         wrong++;
         if (wrong <= SHOWN) {

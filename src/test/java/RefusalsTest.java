@@ -152,7 +152,7 @@ public final class RefusalsTest {
                 x.due(call.answer, call.method, call.arguments);
                 boolean isSame = portrait(x, codes.length(), kind).equals(before);
                 String name = call.method + Arrays.toString(call.arguments);
-                CHECK.due("\"" + codes + "\" is the same after " + name + " (1 is yes)", isSame ? 1 : 0, 1);
+                CHECK.yes("\"" + codes + "\" is the same after " + name, isSame);
             }
         }
     }
